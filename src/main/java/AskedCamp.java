@@ -1175,9 +1175,10 @@ public final class AskedCamp {
 
         /** The CELL that lies beside one on a way out (itself by STAY), NONE beyond the square. */
         int beside(int cell, int wayOut) {
+            int column = side > 0 ? cell % side : 0;
             switch (wayOut) {
-                case AHEAD_IN_ROW: return columnOf(cell) > 0 ? cell - 1 : NONE;
-                case BEHIND_IN_ROW: return columnOf(cell) < side - 1 ? cell + 1 : NONE;
+                case AHEAD_IN_ROW: return column > 0 ? cell - 1 : NONE;
+                case BEHIND_IN_ROW: return column < side - 1 ? cell + 1 : NONE;
                 case ROW_AHEAD: return cell >= side ? cell - side : NONE;
                 case ROW_BEHIND: return cell + side < cells ? cell + side : NONE;
                 default: return cell;
@@ -1469,7 +1470,8 @@ public final class AskedCamp {
         }
 
         void findMostAsked(Scene scene, int n) {
-            after(scene, n);
+            trial.copyFrom(scene.now);
+            walkOn(scene.inForce, n);
             which = NOTHING_SUCH;
             often = 0;
             for (int tent = 0; tent < trial.tents; tent++) {
