@@ -82,6 +82,7 @@ public final class AskedCamp {
     }
 
     public int camp() {
+        // read apart from the CAMP there is, which stays if the text has a FAULT
         World read = foresight.trial;
         campReader.read(read);
         tape.size = 0;

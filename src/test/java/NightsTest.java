@@ -88,6 +88,15 @@ public final class NightsTest {
         x.note(2, 5);
         DUE.due("29: no rule is so", x.look(0), -2);
         DUE.due("29: no rule is so", x.look(1), -2);
+        AskedCamp late = camp("camp 2 0");
+        Tape.rule(late, "go 1 if step = 60");
+        DUE.due("29: they never part so soon", late.look(0), 0);
+        DUE.due("29: they never part so soon", late.look(1), 2);
+        Tape.rule(late, "go 1 if step = 59");
+        DUE.due("29: at the begin of the last", late.look(0), 60);
+        DUE.due("29: at the begin of the last", late.look(1), 2);
+        late.note(60, 1);
+        DUE.due("28: at the begin of the last", late.ruled(1), 1);
         DUE.due("29: others", x.look(2) + x.look(-1) + new AskedCamp().look(0), -3);
     }
 

@@ -88,6 +88,8 @@ public final class TextsTest {
         camp("camp 2 0;;", fault(9, 0));
         camp("camps 2 0", fault(0, 0));
         camp("cam 2 0", fault(0, 0));
+        camp("damp 2 0", fault(0, 0));
+        camp("campz 2 0", fault(0, 0));
         camp("Camp 2 0", fault(0, 0));
         camp("go 1", fault(0, 0));
         camp("tent 0 0", fault(0, 4));
@@ -141,6 +143,10 @@ public final class TextsTest {
         rule("camp 2 0", fault(0, 0));
         rule("go x", fault(3, 0));
         rule("go cells", fault(3, 0));
+        rule("go bell", fault(3, 0));
+        rule("go cella", fault(3, 0));
+        rule("go 1 ifz 1 = 1", fault(5, 0));
+        rule("go 1 of 1 = 1", fault(5, 0));
         rule("go not", fault(3, 0));
         rule("go 1;", fault(5, 0));
         rule("go 1 1", fault(5, 0));
