@@ -1432,7 +1432,8 @@ public final class AskedCamp {
         Foresight(RuleBook rules) {
             this.rules = rules;
             trial = new World();
-            places = new int[TRACED_STEPS + 1];
+            // the later STEP of a ring may be the last one traced, with the 5 behind it further on
+            places = new int[TRACED_STEPS + STEPS_ALIKE + 1];
         }
 
         World after(Scene scene, int n) {
@@ -1519,15 +1520,14 @@ public final class AskedCamp {
 
         void findRing(Scene scene) {
             trial.copyFrom(scene.now);
-            for (int i = 0; i <= TRACED_STEPS; i++) {
+            for (int i = 0; i < places.length; i++) {
                 places[i] = trial.question;
                 rules.stride(trial, scene.inForce);
             }
             which = NOTHING_SUCH;
             often = NOTHING_SUCH;
-            int last = TRACED_STEPS - STEPS_ALIKE;
-            for (int from = 0; from < last; from++) {
-                for (int later = from + 1; later <= last; later++) {
+            for (int from = 0; from < TRACED_STEPS; from++) {
+                for (int later = from + 1; later <= TRACED_STEPS; later++) {
                     if (isAlike(from, later)) {
                         which = scene.now.stepNumber + from;
                         often = later - from;

@@ -816,10 +816,10 @@ final class PlainCamp {
         return best;
     }
 
-    int[] trace(State from, int rule) {
-        int[] trace = new int[61];
+    int[] trace(State from, int rule, int steps) {
+        int[] trace = new int[steps + 1];
         State s = from.copy();
-        for (int i = 0; i <= 60; i++) {
+        for (int i = 0; i <= steps; i++) {
             trace[i] = s.question;
             s.go(ruleOf(rule));
         }
@@ -830,9 +830,9 @@ final class PlainCamp {
         if (!camped() || what < 0 || what > 1) {
             return NONE;
         }
-        int[] trace = trace(now, inForce);
+        int[] trace = trace(now, inForce, 65);
         for (int i = 0; i < 60; i++) {
-            for (int j = i + 1; j + 5 <= 60; j++) {
+            for (int j = i + 1; j <= 60; j++) {
                 if (Arrays.equals(Arrays.copyOfRange(trace, i, i + 6), Arrays.copyOfRange(trace, j, j + 6))) {
                     return what == 0 ? now.step + i : j - i;
                 }
@@ -856,7 +856,7 @@ final class PlainCamp {
     List<Integer> fitting() {
         List<Integer> found = new ArrayList<>();
         for (int r = NONE; r < rules.size(); r++) {
-            int[] trace = trace(told, r);
+            int[] trace = trace(told, r, 60);
             if (notes.stream().allMatch(note -> trace[note[0]] == note[1])) {
                 found.add(r);
             }
@@ -878,7 +878,7 @@ final class PlainCamp {
         }
         List<int[]> traces = new ArrayList<>();
         for (int r : fitting()) {
-            traces.add(trace(told, r));
+            traces.add(trace(told, r, 60));
         }
         if (traces.isEmpty()) {
             return -2;

@@ -265,9 +265,33 @@ public final class QuestionsTest {
         DUE.due("26: there and back", x.ring(1), 2);
         DUE.due("26: others", x.ring(2) + x.ring(-1) + new AskedCamp().ring(0), -3);
         rings("go 99 - been * 9 + column", 0, 36);
-        rings("go 1 + step * step / 3 * cell % 11", -2, -2);
-        rings("go 1 + step * step / 3 * cell % 11 if step < 54", 54, 1);
-        rings("go 1 + step * step / 3 * cell % 11 if step < 55", -2, -2);
+        rings("go 100 - been if step < 57", 57, 1);
+        ringsAmongTheLast();
+    }
+
+    /** It goes on, never twice alike, until some STEP, and stays where it is from then on. */
+    private static void ringsAmongTheLast() {
+        String on = "go 1 + step * step / 3 * cell % 11";
+        rings(on, -2, -2);
+        rings(on + " if step < 54", 54, 1);
+        rings(on + " if step < 59", 59, 1);
+        rings(on + " if step < 60", -2, -2);
+        rings(on + " if step < 59 or step > 63", -2, -2);
+        rings(on + " if step < 59 or step > 64", 59, 1);
+        AskedCamp x = camp("camp 6 0");
+        Tape.rule(x, on + " if step < 62");
+        Tape.rule(x, on + " if step < 63");
+        for (int i = 0; i < 3; i++) {
+            x.force(0);
+            x.step();
+        }
+        DUE.due("26: the last of 60 from now", x.ring(0), 62);
+        DUE.due("26: how much later", x.ring(1), 1);
+        x.force(1);
+        DUE.due("26: beyond the 60 from now", x.ring(0), -2);
+        // at the begin of STEP 58 it is on CELL 2: to and fro from there, and from STEP 59 alone
+        rings(on + " if step < 58; go 1 if cell = 2 or cell = 3", 58, 2);
+        rings(on + " if step < 58; go 1 if cell < 2", -2, -2);
     }
 
     private static void rings(String rule, int step, int later) {

@@ -233,7 +233,7 @@ public final class RandomRunsTest {
         if (n < 0 || n > 60 || plain.told.side == 0) {
             return 0;
         }
-        return plain.trace(plain.told, below(plain.rules.size() + 1) - 1)[n];
+        return plain.trace(plain.told, below(plain.rules.size() + 1) - 1, 60)[n];
     }
 
     private void aState(int kind) {
