@@ -23,6 +23,16 @@ final class Tape {
         x.end(text.length());
     }
 
+    /** The answer to a text whose first FAULT is at a place, and of a kind. */
+    static int fault(int place, int kind) {
+        return -2 - (1 + 8 * place + kind);
+    }
+
+    /** A text with blanks behind it, so long that it has this size. */
+    static String padded(String text, int size) {
+        return text + " ".repeat(size - text.length());
+    }
+
     static int camp(AskedCamp x, String text) {
         put(x, text);
         return x.camp();

@@ -54,10 +54,6 @@ public final class TextsTest {
         DUE.due("4: " + text, Tape.camp(new AskedCamp(), text), want);
     }
 
-    private static int fault(int place, int kind) {
-        return -2 - (1 + 8 * place + kind);
-    }
-
     private static void campsWithoutFault() {
         camp("camp 2 0", 0);
         camp("  camp6   35  ;bush0;tent00035 00020 ; tent 35 0", 2);
@@ -73,40 +69,40 @@ public final class TextsTest {
     }
 
     private static void campFaults() {
-        camp("", fault(0, 0));
-        camp("   ", fault(3, 0));
-        camp("camp", fault(4, 0));
-        camp("camp ", fault(5, 0));
-        camp("camp 1 0", fault(5, 1));
-        camp("camp 7 0", fault(5, 1));
-        camp("camp 20", fault(5, 1));
-        camp("camp 2 4", fault(7, 1));
-        camp("camp 000002 0", fault(5, 1));
-        camp("camp 2 99999999999999999999", fault(7, 1));
-        camp("camp 2 0 0", fault(9, 0));
-        camp("camp 2 0;", fault(9, 0));
-        camp("camp 2 0;;", fault(9, 0));
-        camp("camps 2 0", fault(0, 0));
-        camp("cam 2 0", fault(0, 0));
-        camp("damp 2 0", fault(0, 0));
-        camp("campz 2 0", fault(0, 0));
-        camp("Camp 2 0", fault(0, 0));
-        camp("go 1", fault(0, 0));
-        camp("tent 0 0", fault(0, 4));
-        camp(" bush 0;camp 2 0", fault(1, 4));
-        camp("camp 2 0;camp 2 0", fault(9, 4));
-        camp("camp 2 0;tent 4 0", fault(14, 1));
-        camp("camp 2 0;tent 0 21", fault(16, 1));
-        camp("camp 2 0;tent 0", fault(15, 0));
-        camp("camp 2 0;bush 4", fault(14, 1));
-        camp("camp 2 0;bush x", fault(14, 0));
-        camp("camp 2 0;bush 0x", fault(15, 0));
-        camp("camp 2 0\u0000", fault(8, 0));
-        camp("camp 2 0\u00e9", fault(8, 0));
-        camp("camp 2 0" + ";bush 1".repeat(40), fault(9 + 39 * 7, 4));
-        camp("camp 2 0" + ";bush 1".repeat(39) + ";tree 1", fault(9 + 39 * 7, 0));
-        camp("camp 2 0" + ";bush 1".repeat(39) + ";", fault(9 + 39 * 7, 0));
-        camp("camp 2 0" + ";tent 1 1".repeat(7), fault(9 + 6 * 9, 4));
+        camp("", Tape.fault(0, 0));
+        camp("   ", Tape.fault(3, 0));
+        camp("camp", Tape.fault(4, 0));
+        camp("camp ", Tape.fault(5, 0));
+        camp("camp 1 0", Tape.fault(5, 1));
+        camp("camp 7 0", Tape.fault(5, 1));
+        camp("camp 20", Tape.fault(5, 1));
+        camp("camp 2 4", Tape.fault(7, 1));
+        camp("camp 000002 0", Tape.fault(5, 1));
+        camp("camp 2 99999999999999999999", Tape.fault(7, 1));
+        camp("camp 2 0 0", Tape.fault(9, 0));
+        camp("camp 2 0;", Tape.fault(9, 0));
+        camp("camp 2 0;;", Tape.fault(9, 0));
+        camp("camps 2 0", Tape.fault(0, 0));
+        camp("cam 2 0", Tape.fault(0, 0));
+        camp("damp 2 0", Tape.fault(0, 0));
+        camp("campz 2 0", Tape.fault(0, 0));
+        camp("Camp 2 0", Tape.fault(0, 0));
+        camp("go 1", Tape.fault(0, 0));
+        camp("tent 0 0", Tape.fault(0, 4));
+        camp(" bush 0;camp 2 0", Tape.fault(1, 4));
+        camp("camp 2 0;camp 2 0", Tape.fault(9, 4));
+        camp("camp 2 0;tent 4 0", Tape.fault(14, 1));
+        camp("camp 2 0;tent 0 21", Tape.fault(16, 1));
+        camp("camp 2 0;tent 0", Tape.fault(15, 0));
+        camp("camp 2 0;bush 4", Tape.fault(14, 1));
+        camp("camp 2 0;bush x", Tape.fault(14, 0));
+        camp("camp 2 0;bush 0x", Tape.fault(15, 0));
+        camp("camp 2 0\u0000", Tape.fault(8, 0));
+        camp("camp 2 0\u00e9", Tape.fault(8, 0));
+        camp("camp 2 0" + ";bush 1".repeat(40), Tape.fault(9 + 39 * 7, 4));
+        camp("camp 2 0" + ";bush 1".repeat(39) + ";tree 1", Tape.fault(9 + 39 * 7, 0));
+        camp("camp 2 0" + ";bush 1".repeat(39) + ";", Tape.fault(9 + 39 * 7, 0));
+        camp("camp 2 0" + ";tent 1 1".repeat(7), Tape.fault(9 + 6 * 9, 4));
     }
 
     private static void campAfterFault() {
@@ -117,7 +113,7 @@ public final class TextsTest {
         Tape.camp(x, "camp 3 0;tent 8 5;bush 1");
         x.step();
         x.note(3, 3);
-        DUE.due("4: fault", Tape.camp(x, "camp 3 9"), fault(7, 1));
+        DUE.due("4: fault", Tape.camp(x, "camp 3 9"), Tape.fault(7, 1));
         int[] stays = {3, 1, 1, 0, 1, 3, 0, 0, 0, 1, 1, 1, 77, 0};
         for (int what = 0; what < stays.length; what++) {
             DUE.due("4: stays, count(" + what + ")", x.count(what), stays[what]);
@@ -137,70 +133,70 @@ public final class TextsTest {
     private static void ruleFaults() {
         rule("go 1", 0);
         rule("go1if cell=1and not[row<2or column>=1];go step%2/3*4+5-6 if 1<=2", 0);
-        rule("", fault(0, 0));
-        rule("go", fault(2, 0));
-        rule("gos 1", fault(0, 0));
-        rule("camp 2 0", fault(0, 0));
-        rule("go x", fault(3, 0));
-        rule("go cells", fault(3, 0));
-        rule("go bell", fault(3, 0));
-        rule("go cella", fault(3, 0));
-        rule("go 1 ifz 1 = 1", fault(5, 0));
-        rule("go 1 of 1 = 1", fault(5, 0));
-        rule("go not", fault(3, 0));
-        rule("go 1;", fault(5, 0));
-        rule("go 1 1", fault(5, 0));
-        rule("go 1 go 1", fault(5, 0));
-        rule("go 5 %", fault(6, 0));
-        rule("go 5 % %", fault(7, 0));
-        rule("go - 5", fault(3, 0));
-        rule("go [1]", fault(3, 0));
-        rule("go 100000", fault(3, 1));
+        rule("", Tape.fault(0, 0));
+        rule("go", Tape.fault(2, 0));
+        rule("gos 1", Tape.fault(0, 0));
+        rule("camp 2 0", Tape.fault(0, 0));
+        rule("go x", Tape.fault(3, 0));
+        rule("go cells", Tape.fault(3, 0));
+        rule("go bell", Tape.fault(3, 0));
+        rule("go cella", Tape.fault(3, 0));
+        rule("go 1 ifz 1 = 1", Tape.fault(5, 0));
+        rule("go 1 of 1 = 1", Tape.fault(5, 0));
+        rule("go not", Tape.fault(3, 0));
+        rule("go 1;", Tape.fault(5, 0));
+        rule("go 1 1", Tape.fault(5, 0));
+        rule("go 1 go 1", Tape.fault(5, 0));
+        rule("go 5 %", Tape.fault(6, 0));
+        rule("go 5 % %", Tape.fault(7, 0));
+        rule("go - 5", Tape.fault(3, 0));
+        rule("go [1]", Tape.fault(3, 0));
+        rule("go 100000", Tape.fault(3, 1));
         rule("go 99999", 0);
-        rule("go 1 < 2", fault(5, 0));
-        rule("go 1 if", fault(7, 0));
-        rule("go 1 if 1", fault(9, 0));
-        rule("go 1 if 1 < = 2", fault(12, 0));
-        rule("go 1 if 1 =< 2", fault(11, 0));
-        rule("go 1 if 1 == 2", fault(11, 0));
-        rule("go 1 if 1 <= 2 = 3", fault(15, 0));
-        rule("go 1 if 1 <= 2 and", fault(18, 0));
-        rule("go 1 if 1 <= 2 or;", fault(17, 0));
-        rule("go 1 if 1 <= 2 xor 1 = 1", fault(15, 0));
-        rule("go 1 if near = 1]", fault(16, 0));
-        rule("go 1 if [near = 1", fault(17, 0));
-        rule("go 1 if [near = 1;go 1", fault(17, 0));
-        rule("go 1 if [near] = 1", fault(13, 0));
-        rule("go 1 if not", fault(11, 0));
-        rule("go 1 if not and", fault(12, 0));
-        rule("go 1 if [ ]", fault(10, 0));
-        rule("go 1 if 1 if 1 = 1", fault(10, 0));
+        rule("go 1 < 2", Tape.fault(5, 0));
+        rule("go 1 if", Tape.fault(7, 0));
+        rule("go 1 if 1", Tape.fault(9, 0));
+        rule("go 1 if 1 < = 2", Tape.fault(12, 0));
+        rule("go 1 if 1 =< 2", Tape.fault(11, 0));
+        rule("go 1 if 1 == 2", Tape.fault(11, 0));
+        rule("go 1 if 1 <= 2 = 3", Tape.fault(15, 0));
+        rule("go 1 if 1 <= 2 and", Tape.fault(18, 0));
+        rule("go 1 if 1 <= 2 or;", Tape.fault(17, 0));
+        rule("go 1 if 1 <= 2 xor 1 = 1", Tape.fault(15, 0));
+        rule("go 1 if near = 1]", Tape.fault(16, 0));
+        rule("go 1 if [near = 1", Tape.fault(17, 0));
+        rule("go 1 if [near = 1;go 1", Tape.fault(17, 0));
+        rule("go 1 if [near] = 1", Tape.fault(13, 0));
+        rule("go 1 if not", Tape.fault(11, 0));
+        rule("go 1 if not and", Tape.fault(12, 0));
+        rule("go 1 if [ ]", Tape.fault(10, 0));
+        rule("go 1 if 1 if 1 = 1", Tape.fault(10, 0));
     }
 
     private static void ruleLimits() {
         rule("go 1 if " + "[".repeat(10) + "1=1" + "]".repeat(10), 0);
-        rule("go 1 if " + "[".repeat(11) + "1=1" + "]".repeat(11), fault(18, 2));
+        rule("go 1 if " + "[".repeat(11) + "1=1" + "]".repeat(11), Tape.fault(18, 2));
         rule("go 1 if " + "not ".repeat(10) + "1=1 and " + "not ".repeat(10) + "1=1", 0);
-        rule("go 1 if " + "not ".repeat(11) + "1=1", fault(8 + 40, 2));
+        rule("go 1 if " + "not ".repeat(11) + "1=1", Tape.fault(8 + 40, 2));
         rule("go 1 if " + "not[".repeat(5) + "1=1" + "]".repeat(5) + "or" + "[".repeat(10) + "1=1" + "]".repeat(10), 0);
-        rule("go 1 if " + "not[".repeat(5) + "not 1=1", fault(28, 2));
+        rule("go 1 if " + "not[".repeat(5) + "not 1=1", Tape.fault(28, 2));
         rule("go 1 if [1=1 and [not 1=1] or " + "not ".repeat(9) + "1=1]", 0);
-        rule("go 1 if [1=1 and [not 1=1] or " + "not ".repeat(10) + "1=1]", fault(30 + 36, 2));
+        rule("go 1 if [1=1 and [not 1=1] or " + "not ".repeat(10) + "1=1]", Tape.fault(30 + 36, 2));
         rule("go 1" + "+1".repeat(59), 0);
-        rule("go 1" + "+1".repeat(60), fault(4 + 2 * 59 + 1, 3));
-        rule("go 1" + "+1".repeat(59) + "+100000", fault(4 + 2 * 59 + 1, 1));
-        rule("go 1" + "+1".repeat(59) + "+x", fault(4 + 2 * 59 + 1, 0));
+        rule("go 1" + "+1".repeat(60), Tape.fault(4 + 2 * 59 + 1, 3));
+        rule("go 1" + "+1".repeat(59) + "+100000", Tape.fault(4 + 2 * 59 + 1, 1));
+        rule("go 1" + "+1".repeat(59) + "+x", Tape.fault(4 + 2 * 59 + 1, 0));
         rule("go 1" + "+1".repeat(56) + " if 1<1", 0);
-        rule("go 1" + "+1".repeat(57) + " if 1 < 1", fault(4 + 2 * 57 + 8, 3));
-        rule("go 1" + "+1".repeat(58) + " if 1 < 1", fault(4 + 2 * 58 + 6, 3));
-        rule("go 1" + "+1".repeat(58) + " if 1 + 1", fault(4 + 2 * 58 + 8, 3));
+        rule("go 1" + "+1".repeat(57) + " if 1 < 1", Tape.fault(4 + 2 * 57 + 8, 3));
+        rule("go 1" + "+1".repeat(58) + " if 1 < 1", Tape.fault(4 + 2 * 58 + 6, 3));
+        rule("go 1" + "+1".repeat(58) + " if 1 + 1", Tape.fault(4 + 2 * 58 + 8, 3));
         rule("go 1" + ";go 1".repeat(11), 0);
-        rule("go 1" + ";go 1".repeat(12), fault(5 * 12, 4));
-        rule("go 1" + ";go 1".repeat(11) + ";og 1", fault(5 * 12, 0));
+        rule("go 1" + ";go 1".repeat(12), Tape.fault(5 * 12, 4));
+        rule("go 1" + ";go 1".repeat(11) + ";og 1", Tape.fault(5 * 12, 0));
         AskedCamp x = new AskedCamp();
         for (int i = 0; i < 6; i++) {
             DUE.due("5: number", Tape.rule(x, "go 1"), i);
-            DUE.due("5: fault", Tape.rule(x, "go"), i < 5 ? fault(2, 0) : -1);
+            DUE.due("5: fault", Tape.rule(x, "go"), i < 5 ? Tape.fault(2, 0) : -1);
             DUE.due("5: tape", x.count(13), i < 5 ? 0 : 2);
         }
         DUE.due("5: nothing happens", Tape.rule(x, "go 1"), -1);
