@@ -28,6 +28,7 @@ public final class ActEdgesTest {
         undoNone();
         undoneAsItWas();
         refusedIsNoAct();
+        last512();
         EDGES.close();
     }
 
@@ -366,5 +367,17 @@ public final class ActEdgesTest {
                 + x.steady(0, 0) + x.steady(0, 10) + x.steady(1, 1) + x.bush(9) + x.bush(-1) + x.undo();
         EDGES.is("twelve refused", refused, -12);
         EDGES.is("ACTS", x.count(11), 0);
+    }
+
+    private static void last512() {
+        EDGES.sentence("An object is used for at most 512 calls after it has been made");
+        AskedCamp x = new AskedCamp();
+        Tape.put(x, "camp 2 0;tent 0 1");
+        x.camp();
+        // end, feed, end and camp were four calls
+        for (int call = 5; call < 512; call++) {
+            EDGES.is("call " + call, x.step(), 0);
+        }
+        EDGES.is("the 512th call", x.count(8), 507);
     }
 }

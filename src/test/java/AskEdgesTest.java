@@ -1,3 +1,5 @@
+import java.util.Arrays;
+import java.util.List;
 import java.util.function.Consumer;
 import java.util.function.ToIntFunction;
 
@@ -6,6 +8,14 @@ public final class AskEdgesTest {
     private static final Edges EDGES = new Edges();
     /** From STEP 0 on 60 STEPS without a ring, on a camp of SIDE 6. */
     private static final String ON = "go 1 + step * step / 3 * cell % 11";
+
+    private static final List<ToIntFunction<AskedCamp>> QUESTIONS = List.of(x -> x.tent(0, 2), x -> x.cell(0, 1),
+            x -> x.count(12), x -> x.ahead(0, 100, 0), x -> x.ahead(2, 7, 2), x -> x.first(0), x -> x.way(15),
+            x -> x.reach(36), x -> x.knowsAll(1), x -> x.most(100, 0), x -> x.most(3, 1), x -> x.cut(0, 0),
+            x -> x.cut(0, 1), x -> x.hide(1, 30, 0), x -> x.hide(0, 30, 1), x -> x.wake(30, 0), x -> x.wake(3, 1),
+            x -> x.pence(9999, 0), x -> x.game(0, 4, 0), x -> x.game(2, 1, 1), x -> x.ring(0), x -> x.ring(1),
+            x -> x.ruled(0), x -> x.ruled(1), x -> x.look(0), x -> x.look(1), x -> x.winds(10, 60, 50, 0),
+            x -> x.winds(2, 3, 0, 1));
 
     public static void main(String[] args) {
         ahead();
@@ -50,6 +60,7 @@ public final class AskEdgesTest {
         ringAlike();
         ringNone();
         nothingChanges();
+        whateverWasAsked();
         EDGES.close();
     }
 
@@ -259,6 +270,11 @@ public final class AskEdgesTest {
         EDGES.is("how often", x.most(1, 1), 0);
         EDGES.is("which of 100", x.most(100, 0), -2);
         EDGES.is("which, 101", x.most(101, 0), -1);
+        AskedCamp later = Edges.camp("camp 2 0;tent 0 1");
+        EDGES.is("asked", later.most(100, 1), 100);
+        Tape.camp(later, "camp 2 0");
+        EDGES.is("none any more", later.most(100, 1), 0);
+        EDGES.is("none any more", later.most(100, 0), -2);
         EDGES.is("nobody is ASKED", Edges.camp("camp 2 0;tent 3 1;bush 3").most(100, 1), 0);
     }
 
@@ -317,6 +333,8 @@ public final class AskEdgesTest {
         cuts(Edges.camp("camp 3 3;tent 5 1"), 0, 3, 0, 4, 6);
         cuts(Edges.camp("camp 3 5;tent 3 1"), 0, 3, 0, 4, 6);
         cuts(Edges.camp("camp 3 0;tent 8 1;bush 4"), 0, 2, 1, 3, -2);
+        cuts(Edges.camp("camp 3 0;tent 8 1;bush 2;bush 6;bush 7"), 0, 1, 4, -2, -2);
+        cuts(Edges.camp("camp 6 14;tent 35 1"), 0, 2, 29, 34, -2);
         cuts(Edges.camp("camp 6 35;tent 0 1"), 0, 2, 1, 6, -2);
     }
 
@@ -422,7 +440,7 @@ public final class AskEdgesTest {
         for (int tent = 0; tent < often.length; tent++) {
             x.pitch(tent, often[tent] > 0 ? 0 : 3);
         }
-        for (int i = 1; x.count(8) < java.util.Arrays.stream(often).sum(); i++) {
+        for (int i = 1; x.count(8) < Arrays.stream(often).sum(); i++) {
             x.step();
             for (int tent = 0; tent < often.length; tent++) {
                 x.pitch(tent, often[tent] > i ? 0 : 3);
@@ -434,7 +452,7 @@ public final class AskEdgesTest {
     private static void parted(int much, int[] often, int... want) {
         AskedCamp x = paid(often);
         for (int tent = 0; tent < want.length; tent++) {
-            EDGES.is(much + " among " + java.util.Arrays.toString(often) + ", TENT " + tent, x.pence(much, tent), want[tent]);
+            EDGES.is(much + " among " + Arrays.toString(often) + ", TENT " + tent, x.pence(much, tent), want[tent]);
         }
     }
 
@@ -521,6 +539,10 @@ public final class AskEdgesTest {
         games(Edges.camp("camp 3 4;tent 4 0"), 0, 1, 0, 4);
         games(Edges.camp("camp 3 4;tent 4 0"), 0, 2, 1, 4);
         games(Edges.camp("camp 3 8;tent 0 0"), 0, 1, 3, 5);
+        games(Edges.camp("camp 3 8;tent 0 0"), 0, 2, 3, 5);
+        games(Edges.camp("camp 3 8;tent 0 0"), 0, 3, 2, 5);
+        games(Edges.camp("camp 3 8;tent 0 0"), 0, 4, 2, 5);
+        games(Edges.camp("camp 3 0;tent 3 0"), 0, 3, 0, 3);
     }
 
     // ---- ring
@@ -593,29 +615,26 @@ public final class AskEdgesTest {
 
     // ---- all of them
 
-    private static void asks(String call, ToIntFunction<AskedCamp> asked) {
-        EDGES.leaves(call, rich(), asked, asked.applyAsInt(Edges.made(rich())));
-    }
-
     private static void nothingChanges() {
         EDGES.sentence("By what is asked nothing changes");
-        asks("tent", x -> x.tent(0, 2));
-        asks("cell", x -> x.cell(0, 1));
-        asks("count", x -> x.count(12));
-        asks("ahead", x -> x.ahead(0, 100, 0));
-        asks("first", x -> x.first(0));
-        asks("way", x -> x.way(15));
-        asks("reach", x -> x.reach(36));
-        asks("knowsAll", x -> x.knowsAll(1));
-        asks("most", x -> x.most(100, 0));
-        asks("cut", x -> x.cut(0, 1));
-        asks("hide", x -> x.hide(1, 30, 0));
-        asks("wake", x -> x.wake(30, 0));
-        asks("pence", x -> x.pence(9999, 0));
-        asks("game", x -> x.game(0, 4, 0));
-        asks("ring", x -> x.ring(0));
-        asks("ruled", x -> x.ruled(0));
-        asks("look", x -> x.look(0));
-        asks("winds", x -> x.winds(10, 60, 50, 0));
+        for (int i = 0; i < QUESTIONS.size(); i++) {
+            ToIntFunction<AskedCamp> asked = QUESTIONS.get(i);
+            EDGES.leaves("question " + i, rich(), asked, asked.applyAsInt(Edges.made(rich())));
+        }
+    }
+
+    private static void whateverWasAsked() {
+        EDGES.sentence("By what is asked nothing changes (nor what is answered next)");
+        String[] camps = {"camp 2 0", "camp 3 8;tent 0 1;tent 4 2;bush 1", "camp 6 14;tent 14 0;tent 3 9;tent 35 3"};
+        for (String camp : camps) {
+            for (int i = 0; i < QUESTIONS.size(); i++) {
+                for (int j = 0; j < QUESTIONS.size(); j++) {
+                    AskedCamp x = Edges.camp(camp);
+                    QUESTIONS.get(j).applyAsInt(x);
+                    int alone = QUESTIONS.get(i).applyAsInt(Edges.camp(camp));
+                    EDGES.is("question " + i + " behind " + j + ", " + camp, QUESTIONS.get(i).applyAsInt(x), alone);
+                }
+            }
+        }
     }
 }

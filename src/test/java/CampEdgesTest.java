@@ -215,6 +215,9 @@ public final class CampEdgesTest {
             }
         }
         camp("go 1", Tape.fault(0, 0));
+        camp("damp 2 0", Tape.fault(0, 0));
+        camp("camp 2 0;rent 0 0", Tape.fault(9, 0));
+        camp("camp 2 0;push 0", Tape.fault(9, 0));
         camp("camp 2 0;camps", Tape.fault(9, 0));
         camp("camp 2 0;ten 0 0", Tape.fault(9, 0));
         camp("camp 2 0;tents 0 0", Tape.fault(9, 0));
@@ -290,6 +293,15 @@ public final class CampEdgesTest {
         EDGES.is("20 ACTS are forgotten", full.undo(), -1);
         EDGES.is("10 NOTES are forgotten", full.note(1, 1), 1);
         EDGES.is("TENTS are forgotten", full.count(1) + full.cell(3, 2), 0);
+        AskedCamp walked = Edges.camp("camp 2 0", "go 1 if column = 0");
+        for (int i = 0; i < 5; i++) {
+            walked.step();
+        }
+        walked.ring(0);
+        Tape.camp(walked, "camp 3 0");
+        for (int cell = 0; cell < 9; cell++) {
+            EDGES.is("it never came to " + cell, walked.cell(cell, 1), 0);
+        }
     }
 
     private static void faultLeavesAll() {

@@ -20,7 +20,8 @@ final class Looks {
         Tape.camp(x, "camp 4 5;tent 15 5;tent 2 0;tent 2 20;tent 8 7;bush 6;bush 3");
         x.seed(20261118);
         x.note(0, 5);
-        x.note(60, 1);
+        // with that all but RULE 0 are so
+        x.note(10, 15);
         x.step();
         x.image(0);
         x.force(1);

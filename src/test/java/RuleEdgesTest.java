@@ -22,11 +22,14 @@ public final class RuleEdgesTest {
         deepNots();
         deepBoth();
         besideOneAnother();
+        deepAmongOthers();
         values();
         valuesOfAllClauses();
+        valuesOfEachRule();
         facts();
         firstFault();
         leastOfOnePlace();
+        nothingOfAFaultyOne();
         EDGES.close();
     }
 
@@ -160,6 +163,8 @@ public final class RuleEdgesTest {
         rule("go 1 if 1 <> 1", Tape.fault(11, 0));
         rule("go 1 if 1 <== 1", Tape.fault(12, 0));
         rule("go 1 if 1 ! 1", Tape.fault(10, 0));
+        rule("go 1 if 1 1", Tape.fault(10, 0));
+        rule("go 1 if cell cell = 1", Tape.fault(13, 0));
         rule("go 1 if < 1", Tape.fault(8, 0));
         rule("go 1 if 1 <", Tape.fault(11, 0));
         rule("go 1 if 1 <=", Tape.fault(12, 0));
@@ -192,6 +197,7 @@ public final class RuleEdgesTest {
             rule("go 1+" + word + "*1", 0);
             rule("go " + word + "x", Tape.fault(3, 0));
             rule("go x" + word, Tape.fault(3, 0));
+            rule("go z" + word.substring(1), Tape.fault(3, 0));
             rule("go " + word.substring(1), Tape.fault(3, 0));
             rule("go " + word.substring(0, word.length() - 1), Tape.fault(3, 0));
             rule("go " + word + "X", Tape.fault(3 + word.length(), 0));
@@ -199,6 +205,11 @@ public final class RuleEdgesTest {
             rule("go " + word + " " + word, Tape.fault(4 + word.length(), 0));
         }
         rule("gocell", Tape.fault(0, 0));
+        rule("to 1", Tape.fault(0, 0));
+        rule("go 1 of 1 = 1", Tape.fault(5, 0));
+        rule("go 1 if hot 1 = 1", Tape.fault(8, 0));
+        rule("go 1 if 1 = 1 end 1 = 1", Tape.fault(14, 0));
+        rule("go 1 if 1 = 1 ar 1 = 1", Tape.fault(14, 0));
         rule("go1if1=1and1=1or1=1;go2", 0);
         rule("go 1 if notcell = 1", Tape.fault(8, 0));
         rule("go 1 if 1 = cellor 1 = 1", Tape.fault(12, 0));
@@ -308,6 +319,21 @@ public final class RuleEdgesTest {
         rule("go 1 if [[1=1] and " + "not ".repeat(10) + "1=1]", Tape.fault(8 + 11 + 36, 2));
     }
 
+    private static void deepAmongOthers() {
+        EDGES.sentence("10 deep at most (with an or and an and ahead of each)");
+        String opened = "1=2 or 1=1 and [".repeat(9);
+        String closed = "]".repeat(9);
+        for (String inmost : new String[] {"[1=1]", "not 1=2", "1=1"}) {
+            EDGES.is("all hold", Edges.camp("camp 2 0", "go 1 if " + opened + inmost + closed).step(), 1);
+        }
+        for (String inmost : new String[] {"[1=2]", "not 1=1", "1=2"}) {
+            EDGES.is("the inmost does not", Edges.camp("camp 2 0", "go 1 if " + opened + inmost + closed).step(), 0);
+        }
+        String loose = opened.replace("1=2", "1=1");
+        EDGES.is("those ahead do", Edges.camp("camp 2 0", "go 1 if " + loose + "[1=2]" + closed).step(), 1);
+        rule("go 1 if " + opened + "[[1=1]]" + closed, Tape.fault(8 + 16 * 9 + 1, 2));
+    }
+
     private static void values() {
         EDGES.sentence("at most 60 VALUES (of SUMS); FAULT 3: one VALUE too many (at its first byte)");
         rule("go 1" + "+1".repeat(59), 0);
@@ -335,6 +361,15 @@ public final class RuleEdgesTest {
         rule("go 1+1+1+1+1+1 if " + facts, Tape.fault(18 + 3 + 8 * 18 - 3, 3));
     }
 
+    private static void valuesOfEachRule() {
+        EDGES.sentence("at most 60 VALUES (of one RULE)");
+        AskedCamp x = new AskedCamp();
+        for (int i = 0; i < 6; i++) {
+            EDGES.is("one more of 61", Tape.rule(x, "go 1" + "+1".repeat(60)), Tape.fault(123, 3));
+            EDGES.is("one more of 60", Tape.rule(x, "go 1" + "+1".repeat(59)), i);
+        }
+    }
+
     private static void facts() {
         EDGES.sentence("FAULT 3: one FACT too many (of a FACT at its SIGN)");
         rule("go 1" + "+1".repeat(56) + " if 1<1", 0);
@@ -356,6 +391,24 @@ public final class RuleEdgesTest {
         rule("go 1" + "+1".repeat(60) + "+100000", Tape.fault(123, 3));
         rule("go 1" + ";go 1".repeat(12) + "00000", Tape.fault(60, 4));
         rule("go 1" + ";go 1".repeat(10) + ";go 100000;go 1", Tape.fault(58, 1));
+    }
+
+    private static void nothingOfAFaultyOne() {
+        EDGES.sentence("-2 - its FAULT (and the next text begins anew)");
+        String tenDeep = "[".repeat(10) + "1=1" + "]".repeat(10);
+        String[] faulty = {"go 1 if [[[1=2 or not not 1", "go 1 if " + "[".repeat(11), "go 1 if not " + "not ".repeat(10),
+            "go 1 if 1=2 and 1=2 or [1=2 and [", "go 1" + "+1".repeat(60), "go 1" + ";go 1".repeat(12)};
+        for (String text : faulty) {
+            AskedCamp x = Edges.camp("camp 2 0");
+            Tape.rule(x, text);
+            EDGES.is("10 deep behind " + text, Tape.rule(x, "go 1 if " + tenDeep), 0);
+            Tape.rule(x, text);
+            EDGES.is("none is open behind " + text, Tape.rule(x, "go 1 if 1=1]"), Tape.fault(11, 0));
+            Tape.rule(x, text);
+            EDGES.is("one more behind " + text, Tape.rule(x, "go cell"), 1);
+            EDGES.is("goes by the first", x.force(0) + x.step(), 0);
+            EDGES.is("goes by the second", x.force(1) + x.step(), 3);
+        }
     }
 
     private static void leastOfOnePlace() {

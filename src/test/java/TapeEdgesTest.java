@@ -152,6 +152,26 @@ public final class TapeEdgesTest {
         Tape.put(x, "go 1;go");
         x.end(0);
         EDGES.is("of none", x.rule(), Tape.fault(0, 0));
+        String rule = "go 12 + cell if not [ row <= 12 ] ; go 7";
+        String camp = "camp 3 8 ; tent 12 13 ; bush 1";
+        for (int n = 0; n <= rule.length(); n++) {
+            int end = n;
+            int cut = Edges.made(y -> Tape.put(y, rule.substring(0, end))).rule();
+            EDGES.is("a RULE cut off at " + n, endAndRead(rule, n, true), cut);
+        }
+        for (int n = 0; n <= camp.length(); n++) {
+            int end = n;
+            int cut = Edges.made(y -> Tape.put(y, camp.substring(0, end))).camp();
+            EDGES.is("a CAMP cut off at " + n, endAndRead(camp, n, false), cut);
+        }
+    }
+
+    /** The answer to a text whose last bytes were cut off by end alone, and so may still lie about. */
+    private static int endAndRead(String text, int n, boolean asRule) {
+        AskedCamp x = new AskedCamp();
+        Tape.put(x, text);
+        x.end(n);
+        return asRule ? x.rule() : x.camp();
     }
 
     private static Consumer<AskedCamp> withRules(int rules) {

@@ -73,6 +73,10 @@ public final class WordEdgesTest {
         holds("camp 2 0;tent 1 20", "nerve = 20", true);
         holds("camp 2 0;tent 1 7;tent 1 3;tent 1 5", "nerve = 3", true);
         holds("camp 2 0;tent 1 7;tent 2 3", "nerve = 7", true);
+        holds("camp 2 0;tent 1 9;tent 1 8;tent 1 7;tent 1 6;tent 1 5;tent 1 4", "nerve = 4", true);
+        AskedCamp older = Edges.camp("camp 2 0;tent 1 3;tent 1 2", "go 1 if cell = 1 and nerve = 99");
+        Tape.camp(older, "camp 2 0;tent 3 3");
+        EDGES.is("not one of an older CAMP", older.step(), 1);
         AskedCamp x = Edges.camp("camp 2 0;tent 1 20", "go 1 if cell = 1 and nerve = 99 and tents = 1");
         for (int i = 0; i < 9; i++) {
             x.steady(0, 9);
