@@ -1,4 +1,5 @@
 import java.util.List;
+import java.util.function.Consumer;
 import java.util.function.Function;
 
 /**
@@ -45,6 +46,18 @@ final class Looks {
         x.force(1);
         x.seed(77);
         Tape.put(x, "camp 2 1;tent 3 2;bush 2");
+    }
+
+    /** A camp with so many rules, the last of them in force. */
+    static Consumer<AskedCamp> withRules(int rules) {
+        return x -> {
+            Tape.camp(x, "camp 3 4;tent 8 3");
+            for (int i = 0; i < rules; i++) {
+                Tape.rule(x, i % 2 == 0 ? "go 1" : "go cell");
+            }
+            x.force(rules - 1);
+            x.step();
+        };
     }
 
     private static void counts(StringBuilder seen, AskedCamp x) {

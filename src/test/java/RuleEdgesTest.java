@@ -37,17 +37,6 @@ public final class RuleEdgesTest {
         EDGES.is(text, Tape.rule(new AskedCamp(), text), want);
     }
 
-    private static Consumer<AskedCamp> rulesTold(int rules) {
-        return x -> {
-            Tape.camp(x, "camp 3 4;tent 8 3");
-            for (int i = 0; i < rules; i++) {
-                Tape.rule(x, i % 2 == 0 ? "go 1" : "go cell");
-            }
-            x.force(rules - 1);
-            x.step();
-        };
-    }
-
     private static void numbersOfRules() {
         EDGES.sentence("RULES 0 to 5: its number");
         AskedCamp x = new AskedCamp();
@@ -63,9 +52,9 @@ public final class RuleEdgesTest {
 
     private static void sixAreAll() {
         EDGES.sentence("NONE, and nothing happens: there are 6.");
-        EDGES.is("a sixth", Tape.rule(Edges.made(rulesTold(5)), "go 2"), 5);
+        EDGES.is("a sixth", Tape.rule(Edges.made(Looks.withRules(5)), "go 2"), 5);
         for (String text : new String[] {"go 2", "go", "camp 2 1;tent 3 2", ""}) {
-            Consumer<AskedCamp> setup = rulesTold(6).andThen(x -> Tape.put(x, text));
+            Consumer<AskedCamp> setup = Looks.withRules(6).andThen(x -> Tape.put(x, text));
             EDGES.leaves("rule() of " + text, setup, x -> x.rule(), -1);
             AskedCamp x = Edges.made(setup);
             x.rule();

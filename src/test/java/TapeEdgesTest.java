@@ -174,22 +174,11 @@ public final class TapeEdgesTest {
         return asRule ? x.rule() : x.camp();
     }
 
-    private static Consumer<AskedCamp> withRules(int rules) {
-        return x -> {
-            Tape.camp(x, "camp 3 4;tent 8 3");
-            for (int i = 0; i < rules; i++) {
-                Tape.rule(x, i % 2 == 0 ? "go 1" : "go cell");
-            }
-            x.force(rules - 1);
-            x.step();
-        };
-    }
-
     private static void forceAtItsEdges() {
         EDGES.sentence("A RULE is IN FORCE: which was; -2, and nothing happens, if there is none such.");
         for (int rules = 0; rules <= 6; rules++) {
-            EDGES.range("force of " + rules, withRules(rules), (x, n) -> x.force(n), -1, rules - 1, -2);
-            AskedCamp x = Edges.made(withRules(rules));
+            EDGES.range("force of " + rules, Looks.withRules(rules), (x, n) -> x.force(n), -1, rules - 1, -2);
+            AskedCamp x = Edges.made(Looks.withRules(rules));
             for (int rule = 0; rule < rules; rule++) {
                 EDGES.is("which was", x.force(rule), rule == 0 ? rules - 1 : rule - 1);
                 EDGES.is("which is", x.count(3), rule);
@@ -199,7 +188,7 @@ public final class TapeEdgesTest {
 
     private static void forceNone() {
         EDGES.sentence("A RULE is IN FORCE (NONE: none)");
-        EDGES.leaves("force(NONE), which it was", withRules(0), x -> x.force(-1), -1);
+        EDGES.leaves("force(NONE), which it was", Looks.withRules(0), x -> x.force(-1), -1);
         AskedCamp x = Edges.camp("camp 3 4;tent 8 3", "go 1");
         EDGES.is("force(NONE)", x.force(-1), 0);
         EDGES.is("none is", x.count(3), -1);
