@@ -175,7 +175,7 @@ public final class AskedCamp {
             return NONE;
         }
         acts.keep(now);
-        rules.stride(now, scene.inForce);
+        rules.stride(now, scene.inForce, 1);
         return now.question;
     }
 
@@ -655,20 +655,20 @@ public final class AskedCamp {
             boolean more = true;
             // each round takes a byte at least
             for (int round = 0; more && round < Tape.LIMIT; round++) {
-                readFact();
+                openFact();
+                readSum();
+                int sign = readSign();
+                readSum();
+                emit(sign);
                 more = tape.fault == 0 && closeFact();
             }
         }
 
-        /** Reads up to the end of a SUM SIGN SUM, through what opens ahead of it. */
-        private void readFact() {
+        /** Takes all [ and not that stand ahead of a SUM SIGN SUM. */
+        private void openFact() {
             for (int round = 0; round <= DEPTH_AT_MOST; round++) {
                 int opened = takeOpening();
                 if (opened == 0) {
-                    readSum();
-                    int sign = readSign();
-                    readSum();
-                    emit(sign);
                     return;
                 }
                 if (depth >= DEPTH_AT_MOST) {
@@ -970,19 +970,18 @@ public final class AskedCamp {
             return rule;
         }
 
-        /** Makes a STEP. */
-        void stride(World world, int rule) {
-            if (!world.isPitched()) {
-                return;
+        /** Makes n STEPS; without a CAMP there is nothing to go on. */
+        void stride(World world, int rule, int n) {
+            for (int i = 0; i < n && world.hasCell(world.question); i++) {
+                if (has(rule)) {
+                    world.question = favourite(world, rule);
+                } else {
+                    world.question = world.towards(world.cellsToAsk());
+                }
+                world.been[world.question]++;
+                world.askWhoIsHere();
+                world.stepNumber++;
             }
-            if (has(rule)) {
-                world.question = favourite(world, rule);
-            } else {
-                world.question = world.towards(world.cellsToAsk());
-            }
-            world.been[world.question]++;
-            world.askWhoIsHere();
-            world.stepNumber++;
         }
 
         private int favourite(World world, int rule) {
@@ -1438,20 +1437,14 @@ public final class AskedCamp {
 
         World after(Scene scene, int n) {
             trial.copyFrom(scene.now);
-            walkOn(scene.inForce, n);
+            rules.stride(trial, scene.inForce, n);
             return trial;
-        }
-
-        private void walkOn(int rule, int n) {
-            for (int i = 0; i < n; i++) {
-                rules.stride(trial, rule);
-            }
         }
 
         int firstAsked(Scene scene, int tent) {
             trial.copyFrom(scene.now);
             for (int i = 0; i < STEPS_LOOKED_AT; i++) {
-                rules.stride(trial, scene.inForce);
+                rules.stride(trial, scene.inForce, 1);
                 if (trial.asked[tent] > scene.now.asked[tent]) {
                     return scene.now.stepNumber + i;
                 }
@@ -1466,14 +1459,14 @@ public final class AskedCamp {
                 if (trial.knows[tent] == all) {
                     return scene.now.stepNumber + i - 1;
                 }
-                rules.stride(trial, scene.inForce);
+                rules.stride(trial, scene.inForce, 1);
             }
             return NOTHING_SUCH;
         }
 
         void findMostAsked(Scene scene, int n) {
             trial.copyFrom(scene.now);
-            walkOn(scene.inForce, n);
+            rules.stride(trial, scene.inForce, n);
             which = NOTHING_SUCH;
             often = 0;
             for (int tent = 0; tent < trial.tents; tent++) {
@@ -1491,7 +1484,7 @@ public final class AskedCamp {
             for (int cell = 0; cell < scene.now.cells; cell++) {
                 trial.copyFrom(scene.now);
                 trial.tentCell[tent] = cell;
-                walkOn(scene.inForce, n);
+                rules.stride(trial, scene.inForce, n);
                 int times = trial.asked[tent] - scene.now.asked[tent];
                 if (which == NONE || times < often) {
                     which = cell;
@@ -1509,7 +1502,7 @@ public final class AskedCamp {
                     trial.asked[tent]++;
                 }
                 int before = trial.everAsked();
-                walkOn(scene.inForce, n);
+                rules.stride(trial, scene.inForce, n);
                 int newly = Integer.bitCount(trial.everAsked() & ~before);
                 if (newly > often) {
                     which = tent;
@@ -1522,7 +1515,7 @@ public final class AskedCamp {
             trial.copyFrom(scene.now);
             for (int i = 0; i < places.length; i++) {
                 places[i] = trial.question;
-                rules.stride(trial, scene.inForce);
+                rules.stride(trial, scene.inForce, 1);
             }
             which = NOTHING_SUCH;
             often = NOTHING_SUCH;
@@ -1555,7 +1548,7 @@ public final class AskedCamp {
                 trial.copyFrom(scene.now);
                 for (int i = 0; i < n; i++) {
                     drift(p);
-                    rules.stride(trial, scene.inForce);
+                    rules.stride(trial, scene.inForce, 1);
                 }
                 often += trial.askedInAll() - before;
                 gathered += Integer.bitCount(trial.bits);
@@ -1599,18 +1592,15 @@ public final class AskedCamp {
         void trace(Scene scene) {
             for (int row = 0; row < ROWS; row++) {
                 fits[row] = row <= rules.size;
-                if (fits[row]) {
-                    traceOne(scene.told, row);
-                    fits[row] = agrees(scene, row);
+                if (!fits[row]) {
+                    continue;
                 }
-            }
-        }
-
-        private void traceOne(World told, int row) {
-            trial.copyFrom(told);
-            for (int i = 0; i <= TRACED_STEPS; i++) {
-                places[row][i] = trial.question;
-                rules.stride(trial, row - 1);
+                trial.copyFrom(scene.told);
+                for (int i = 0; i <= TRACED_STEPS; i++) {
+                    places[row][i] = trial.question;
+                    rules.stride(trial, row - 1, 1);
+                }
+                fits[row] = agrees(scene, row);
             }
         }
 

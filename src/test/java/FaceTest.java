@@ -8,10 +8,8 @@ import java.nio.file.Files;
 import java.nio.file.Path;
 import java.util.Set;
 import java.util.TreeSet;
-import java.util.regex.Matcher;
-import java.util.regex.Pattern;
 
-/** The public face, the language's rules as far as they can be seen, and the room that calls take. */
+/** The public face, and the room that calls take. */
 public final class FaceTest {
     private static final Due DUE = new Due();
     private static final com.sun.management.ThreadMXBean BEAN =
@@ -24,7 +22,7 @@ public final class FaceTest {
 
     public static void main(String[] args) throws IOException {
         face();
-        source();
+        asWritten();
         room();
         DUE.close();
     }
@@ -36,6 +34,9 @@ public final class FaceTest {
                 open.add(method.getName() + " " + method.getParameterCount());
                 DUE.due("public " + method, Modifier.isPublic(method.getModifiers()) ? 1 : 0, 1);
                 DUE.due("int " + method, method.getReturnType() == int.class ? 1 : 0, 1);
+                for (Class<?> parameter : method.getParameterTypes()) {
+                    DUE.due("takes int, " + method, parameter == int.class ? 1 : 0, 1);
+                }
             }
         }
         DUE.due("methods " + open, open.equals(new TreeSet<>(Set.of(FACE))) ? 1 : 0, 1);
@@ -47,32 +48,25 @@ public final class FaceTest {
         DUE.due("NONE", AskedCamp.NONE, -1);
         Constructor<?>[] made = AskedCamp.class.getDeclaredConstructors();
         DUE.due("constructors", made.length, 1);
+        DUE.due("a public constructor", Modifier.isPublic(made[0].getModifiers()) ? 1 : 0, 1);
+        DUE.due("a constructor of nothing", made[0].getParameterCount(), 0);
         DUE.due("final", Modifier.isFinal(AskedCamp.class.getModifiers()) ? 1 : 0, 1);
-        for (Class<?> inside : AskedCamp.class.getDeclaredClasses()) {
-            DUE.due("static " + inside, Modifier.isStatic(inside.getModifiers()) ? 1 : 0, 1);
-            for (Method method : inside.getDeclaredMethods()) {
-                boolean twice = Set.of(FACE).stream().anyMatch(f -> f.startsWith(method.getName() + " "));
-                DUE.due("a name of the face, " + method, twice ? 1 : 0, 0);
-            }
-        }
-        DUE.due("classes, twelve at most", Math.max(12, AskedCamp.class.getDeclaredClasses().length + 1), 12);
     }
 
-    private static void source() throws IOException {
-        String code = Files.readString(Path.of("src/main/java/AskedCamp.java"));
-        code = code.replaceAll("(?s)/\\*.*?\\*/", "").replaceAll("//[^\n]*", "").replaceAll("\"[^\"\n]*\"", "\"\"");
-        for (String no : new String[] {"\\bthrow\\b", "\\btry\\b", "\\bcatch\\b", "\\bassert\\b", "\\bsynchronized\\b",
-            "\\bimport\\b", "\\bpackage\\b", "->", "::", "\\bnew [A-Z]\\w*\\([^)]*\\) *\\{", "Exact\\b", "System\\.(?!arraycopy)",
-            "\\bObject\\b", "\\bstatic \\{", "\\bfor *\\( *;", "\\bwhile *\\( *true"}) {
-            Matcher found = Pattern.compile(no).matcher(code);
-            DUE.due("in the source: " + no, found.find() ? 1 : 0, 0);
+    /** Each line of the face as the document writes it, with the names of the parameters. */
+    private static void asWritten() throws IOException {
+        String document = Files.readString(Path.of("../shared/DOC.md"));
+        String source = Files.readString(Path.of("src/main/java/AskedCamp.java"));
+        int lines = 0;
+        for (String line : document.split("\n")) {
+            if (line.startsWith("    public ")) {
+                lines++;
+                boolean constant = line.contains("=");
+                String due = constant ? line : line.replace(";", " {");
+                DUE.due("in the source:" + due, source.contains("\n" + due + "\n") ? 1 : 0, 1);
+            }
         }
-        int length = 0;
-        for (String line : code.split("\n")) {
-            boolean inMethod = line.matches("        .*");
-            length = inMethod && !line.equals("        }") && !line.equals("    }") ? length + 1 : 0;
-            DUE.due("a method of more than sixty lines at " + line, length > 60 ? 1 : 0, 0);
-        }
+        DUE.due("lines of the face", lines, FACE.length + 2);
     }
 
     private static long allocated() {
